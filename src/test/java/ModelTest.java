@@ -574,7 +574,7 @@ public final class ModelTest {
             house = new ToteHouse();
             model = new Model();
             races = 1 + next(5);
-            most = 2 + next(day % 3 == 0 ? 23 : 9);
+            most = day % 4 == 0 ? 4 + next(2) : 2 + next(day % 3 == 0 ? 23 : 9);
             for (int call = 0; call < CALLS && Check.wrong() < 20; call++) {
                 compareCall("day " + day + " call " + call + ": ", call);
                 if (day <= 10 || call % 97 == 0) {

@@ -173,6 +173,16 @@ public final class MoneyTest {
         // NET 300, three SHARES of 100: 20, 20 and 10 a unit
         settled("five first", v, 2, 100, 100 + 100 + 100, 0, 0, 0, 3, 1);
         Check.due("4 and 5", v.dividend(1, 2, 5, 4, 0), 10);
+        ToteHouse u = pairHouse();
+        u.sell(1, 2, 2, 3, 0, 5);
+        finish(u, 1, 1, 2, 2);
+        // S 500, NET 375
+        settled("2 and 3 second, 2 with 3 bet on", u, 2, 125, 300, 75, 0, 0, 2, 1);
+        Check.due("two second ones are none", u.dividend(1, 2, 2, 3, 0), 0);
+        Check.due("nor is their ticket paid", u.pay(4), 0);
+        ToteHouse t = pairHouse();
+        finish(t, 1, 1, 0, 3, 2);
+        settled("1 with the third: void", t, 2, 0, 0, 0, 0, 0, 0, 2);
         ToteHouse w = pairHouse();
         finish(w, 1, 3, 1, 2);
         settled("2 and 3: void", w, 2, 0, 0, 0, 0, 0, 0, 2);
@@ -211,6 +221,12 @@ public final class MoneyTest {
         ToteHouse w = orderHouse();
         finish(w, 1, 1, 2, 3, 3);
         settled("two third", w, 3, 21, 70, 49, 0, 0, 1, 1);
+        ToteHouse u = orderHouse();
+        finish(u, 1, 1, 2, 4, 3);
+        settled("1 2 and the fourth", u, 3, 21, 0, 0, 0, 119, 0, 1);
+        ToteHouse t = orderHouse();
+        finish(t, 1, 1, 3, 4, 2);
+        settled("1, then the third and the fourth", t, 3, 21, 0, 0, 0, 119, 0, 1);
     }
 
     private static ToteHouse fourOrders() {
@@ -261,6 +277,16 @@ public final class MoneyTest {
         Check.due("3 as it was", x.sum(3, 3, 7), 0);
         finish(x, 4, 4, 3, 2, 1);
         Check.due("day's end", x.carried(), 90 + 270);
+        ToteHouse z = new ToteHouse();
+        z.race(11, 4);
+        z.race(12, 4);
+        z.pool(11, 3, 0, 10);
+        z.pool(12, 3, 0, 10);
+        z.sell(11, 3, 1, 2, 3, 1);
+        finish(z, 11, 2, 1, 3);
+        Check.due("into 12", z.sum(12, 3, 7), 10);
+        finish(z, 12, 2, 1, 3);
+        Check.due("behind 12", z.carried(), 10);
         ToteHouse y = fourOrders();
         finish(y, 4, 2, 1, 3);
         Check.due("the last at once", y.carried(), 90);
@@ -373,6 +399,10 @@ public final class MoneyTest {
         }
         for (int kind = 0; kind <= 3; kind++) {
             x.sell(1, kind, 1, 2, 3, 4);
+        }
+        for (int kind = 0; kind <= 3; kind++) {
+            Check.due("three run, c is looked at", x.odds(1, kind, 1, 2, 4), -1);
+            Check.due("three run", x.odds(1, kind, 1, 2, 3), kind == 1 ? 0 : 10);
         }
         x.scratch(1, 3);
         x.sell(1, 2, 1, 2, 0, 4);
@@ -525,6 +555,9 @@ public final class MoneyTest {
         finish(y, 1, 1, 2, 3);
         finish(y, 12, 1, 2, 3);
         Check.due("of all races", y.unclaimed(), 110);
+        ToteHouse z = orderHouse();
+        finish(z, 1, 1, 2, 3);
+        Check.due("of an ORDER", z.unclaimed(), 70);
     }
 
     private static void promise18Close() {
@@ -537,6 +570,13 @@ public final class MoneyTest {
         finish(x, 1, 1, 2, 3);
         Check.due("all official", x.close(), 0);
         Check.due("again", x.close(), 0);
+        ToteHouse z = orderHouse();
+        z.sell(1, 3, 4, 5, 6, 9);
+        z.sell(1, 3, 1, 2, 5, 8);
+        z.cancel(4);
+        z.scratch(1, 6);
+        finish(z, 1, 2, 1, 0, 3);
+        Check.due("cancelled, refunded, carried", z.close(), 0);
         ToteHouse y = new ToteHouse();
         y.race(12, 2);
         Check.due("a race without a pool", y.close(), -1);

@@ -5,6 +5,7 @@ public final class RaceTest {
         promise8Double();
         promise8NoSubstitute();
         promise8OtherLegIsOver();
+        promise8LastRunners();
         promise9Off();
         promise10Place();
         promise11Positions();
@@ -118,6 +119,27 @@ public final class RaceTest {
         Check.due("the substitute", x.scratch(2, 6), 1);
         Check.due("a lost one goes back too", x.scratch(2, 3), 1);
         Check.due("went back", x.count(5), 200);
+    }
+
+    private static void promise8LastRunners() {
+        ToteHouse x = house(24);
+        x.sell(1, 0, 24, 0, 0, 1);
+        x.sell(1, 0, 23, 0, 0, 1);
+        Check.due("scratch(1, 24)", x.scratch(1, 24), 1);
+        Check.due("look", x.look(1, 124), -1);
+        Check.due("runner 25", x.scratch(1, 25), -1);
+        Check.due("run", x.look(1, 2), 23);
+        x.off(1);
+        x.off(2);
+        Check.due("place(1, 1, 23)", x.place(1, 1, 23), true);
+        Check.due("look", x.look(1, 123), 1);
+        Check.due("place(2, 24, 24)", x.place(2, 24, 24), true);
+        Check.due("look", x.look(2, 124), 24);
+        Check.due("a position 24 counts", x.look(2, 3), 1);
+        x.place(1, 2, 1);
+        x.place(1, 3, 2);
+        x.official(1);
+        Check.due("dividend", x.dividend(1, 0, 23, 0, 0), 100);
     }
 
     private static void promise9Off() {

@@ -95,18 +95,24 @@ public final class TicketTest {
         Check.due("first is off", y.sell(2, 4, 1, 1, 0, 1), -3);
     }
 
-    /** Beyond the 512 calls of an object nothing is due but that it goes on answering. */
+    /** The last of them come behind the 512 calls that are promised: here it goes on all the same. */
     private static void promise6SixHundred() {
         ToteHouse x = house();
         for (int t = 0; t < 480; t++) {
             Check.due("sale " + t, x.sell(1, 0, 1 + t % 6, 0, 0, 1000), t);
         }
         Check.due("staked", x.sum(1, 0, 0), 48000000);
-        for (int t = 480; t < 620; t++) {
-            x.sell(1, 0, 1, 0, 0, 1);
+        for (int t = 480; t < 600; t++) {
+            Check.due("sale " + t, x.sell(1, 0, 1, 0, 0, 1), t);
         }
-        x.count(1);
-        x.ticket(600, 0);
+        Check.due("601st", x.sell(1, 0, 1, 0, 0, 1), -7);
+        Check.due("no units ahead of that", x.sell(1, 0, 1, 0, 0, 0), -2);
+        Check.due("scratched ahead of that", x.scratch(1, 6), 80);
+        Check.due("scratched ahead of that", x.sell(1, 0, 6, 0, 0, 1), -5);
+        Check.due("count(0)", x.count(0), 600);
+        Check.due("count(1)", x.count(1), 520);
+        Check.due("ticket(599, 5)", x.ticket(599, 5), 1);
+        Check.due("ticket(600, 5)", x.ticket(600, 5), -1);
     }
 
     private static void promise7Cancel() {
@@ -243,6 +249,27 @@ public final class TicketTest {
         for (int what = 0; what <= 5; what++) {
             Check.due("count(" + what + ")", x.count(what), counts[what]);
         }
+        ToteHouse y = house();
+        for (int t = 0; t < 10; t++) {
+            y.sell(1, 0, t < 4 ? 1 : 2, 0, 0, 1);
+        }
+        y.sell(1, 0, 3, 0, 0, 1);
+        y.cancel(9);
+        y.cancel(8);
+        y.scratch(1, 3);
+        y.off(1);
+        y.place(1, 1, 1);
+        y.place(1, 2, 2);
+        y.place(1, 3, 4);
+        y.official(1);
+        y.pay(0);
+        y.pay(1);
+        y.pay(2);
+        Check.due("11 in all", y.count(0), 11);
+        Check.due("sold", y.count(1), 5);
+        Check.due("cancelled", y.count(2), 2);
+        Check.due("refunded", y.count(3), 1);
+        Check.due("paid", y.count(4), 3);
         Check.due("count(-1)", x.count(-1), -1);
         Check.due("count(6)", x.count(6), -1);
     }
