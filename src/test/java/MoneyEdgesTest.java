@@ -654,6 +654,11 @@ public final class MoneyEdgesTest {
                 official 2 -> 1
                 odds 0 4 1 2 0 -> -1
                 """);
+        Edge.test("odds(): DOUBLE, nobody TIED, whoever was", bets + """
+                finish 1 1 3 1 4 -> 0
+                odds 0 4 1 2 0 -> 100
+                odds 0 4 3 3 0 -> 10
+                """);
     }
 
     private static void promise12Carried() {
